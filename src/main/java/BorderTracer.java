@@ -22,7 +22,7 @@ public final class BorderTracer {
     public static final int SIDE_BOTTOM = 2;
     public static final int SIDE_LEFT = 3;
 
-    private static final int CELLS = MAX_SIDE * RASTER_STRIDE;
+    private static final int CELLS = 256;
     private static final int NO_START = -1;
 
     // The sides 0..3 are directions too; these four make up the rest of the 8-neighbours.
@@ -331,16 +331,17 @@ public final class BorderTracer {
     private void countEdges() {
         for (int y = 0; y < height; y++) {
             for (int x = 0; x < width; x++) {
+                int near = labels[rasterIndex(x, y)];
                 for (int side = 0; side < SIDES; side++) {
-                    countEdge(x, y, side);
+                    int far = labelBeyond(x, y, side);
+                    countEdge(near, far);
                 }
             }
         }
     }
 
-    private void countEdge(int x, int y, int side) {
-        int near = labels[rasterIndex(x, y)];
-        int far = labelBeyond(x, y, side);
+    /** The crack can only be on the border of one of the two regions that it parts. */
+    private void countEdge(int near, int far) {
         if (isContour(near) && isBorder(near, near, far)) {
             lengths[near]++;
         }

@@ -15,6 +15,12 @@ public final class Promise05Test {
         Check.due("other diagonal too", Pictures.draw("..#", ".#.", "#..").trace(), 1);
         Check.due("diagonal background is two", Pictures.draw("####", "#.##", "##.#", "####").trace(), 3);
         Check.due("a bay at the rim is no hole", Pictures.draw("###", "#.#", "#.#").trace(), 1);
+        Check.due("a bay at the top", Pictures.draw("##.##", "#...#", "#####").trace(), 1);
+        Check.due("a bay at the left", Pictures.draw("#####", "...##", "#####").trace(), 1);
+        Check.due("a bay at the right", Pictures.draw("#####", "##...", "#####").trace(), 1);
+        Check.due("a bay at the bottom", Pictures.draw("#####", "#...#", "##.##").trace(), 1);
+        Check.due("high with a bay at the right", Pictures.draw("###", "###", "#..", "###", "###").trace(), 1);
+        Check.due("high with a bay at the bottom", Pictures.draw("###", "###", "###", "#.#", "#.#").trace(), 1);
         Check.due("background at each rim", Pictures.draw("#.#", "...", "#.#").trace(), 4);
         Check.due("a corner does not open a hole", Pictures.draw(".##", "#.#", "###").trace(), 2);
         Check.due("ring", Pictures.draw(Pictures.RING).trace(), 3);
