@@ -1,35 +1,69 @@
-import java.util.function.IntUnaryOperator;
-
 /** What the tests of contourKind, contourParent, contourStart, contourLength and contourArea have in common. */
 final class ContourAnswers {
     interface Question {
         int ask(BorderTracer tracer, int k);
     }
 
-    private ContourAnswers() {
+    private final String name;
+    private final Question question;
+    private final int invalid;
+
+    ContourAnswers(String name, Question question, int invalid) {
+        this.name = name;
+        this.question = question;
+        this.invalid = invalid;
     }
 
-    /** The answers for all valid k, those for wrong ones on either side, and those before and after a trace. */
-    static void due(String name, Question question, int invalid, String[] picture, int... want) {
-        BorderTracer tracer = Pictures.draw(picture);
-        wrongNumbers(name + " not traced", k -> question.ask(tracer, k), invalid, 0);
-        tracer.trace();
-        tracer.toggleFill(0);
-        String before = Pictures.state(tracer, picture[0].length(), picture.length);
+    /** The answers for all valid k, and the one just past them. */
+    void due(String[] picture, int... want) {
+        BorderTracer tracer = Pictures.drawAndTrace(picture);
         for (int k = 0; k < want.length; k++) {
             Check.due(name + "(" + k + ")", question.ask(tracer, k), want[k]);
         }
-        wrongNumbers(name, k -> question.ask(tracer, k), invalid, want.length);
-        String after = Pictures.state(tracer, picture[0].length(), picture.length);
-        Check.due(name + " changes nothing", after.equals(before), true);
-        tracer.setPixel(0, 0, tracer.getPixel(0, 0));
-        wrongNumbers(name + " invalidated", k -> question.ask(tracer, k), invalid, 0);
+        Check.due(name + "(" + want.length + ")", question.ask(tracer, want.length), invalid);
     }
 
-    private static void wrongNumbers(String name, IntUnaryOperator question, int invalid, int n) {
-        int[] wrong = {Integer.MIN_VALUE, -256, -2, -1, n, n + 1, 255, 256, 257, 65536, Integer.MAX_VALUE};
-        for (int k : wrong) {
-            Check.due(name + "(" + k + ")", question.applyAsInt(k), invalid);
+    void whileNotTraced() {
+        for (Situation situation : Situation.notTraced()) {
+            BorderTracer tracer = situation.make();
+            for (int k = 0; k < 9; k++) {
+                Check.due(situation.name + ": " + name + "(" + k + ")", question.ask(tracer, k), invalid);
+            }
+            wrong(situation, Wrong.numbers(0));
+        }
+    }
+
+    void forNegativeNumbers() {
+        for (Situation situation : Situation.traced()) {
+            wrong(situation, Wrong.negativeNumbers());
+        }
+    }
+
+    void forNumbersTooLarge() {
+        for (Situation situation : Situation.traced()) {
+            wrong(situation, Wrong.numbersFrom(situation.count));
+        }
+    }
+
+    void changesNothing() {
+        for (Situation situation : Situation.all()) {
+            Unchanged unchanged = new Unchanged(situation);
+            for (int k = 0; k < situation.n(); k++) {
+                question.ask(unchanged.tracer(), k);
+                unchanged.look(name + "(" + k + ")");
+            }
+            for (int k : Wrong.numbers(situation.n())) {
+                question.ask(unchanged.tracer(), k);
+                unchanged.look(name + "(" + k + ")");
+            }
+            unchanged.end(name);
+        }
+    }
+
+    private void wrong(Situation situation, int[] numbers) {
+        BorderTracer tracer = situation.make();
+        for (int k : numbers) {
+            Check.due(situation.name + ": " + name + "(" + k + ")", question.ask(tracer, k), invalid);
         }
     }
 }

@@ -1,68 +1,110 @@
 /** Promise 2: setPixel. */
 public final class Promise02Test {
+    private static final int[] NONZERO = {1, 2, 3, 16, 256, 65536, 1 << 30, Integer.MAX_VALUE};
+    private static final int[] NEGATIVE = {-1, -2, -256, -65536, Integer.MIN_VALUE + 1, Integer.MIN_VALUE};
+
     public static void main(String[] args) {
-        values();
-        onlyThatPixel();
-        invalidates();
         refused();
+        nonzeroSets();
+        negativeSets();
+        zeroClears();
+        invalidates();
+        invalidatesUnchanged();
+        noOtherPixel();
         Check.finish();
     }
 
-    private static void values() {
-        BorderTracer tracer = new BorderTracer(3, 2);
-        int[] set = {1, 2, -1, 256, 65536, Integer.MIN_VALUE, Integer.MAX_VALUE};
-        for (int value : set) {
-            Check.due("setPixel 0", tracer.setPixel(2, 1, 0), true);
-            Check.due("after 0", tracer.getPixel(2, 1), 0);
-            Check.due("setPixel " + value, tracer.setPixel(2, 1, value), true);
-            Check.due("after " + value, tracer.getPixel(2, 1), 1);
+    private static void refused() {
+        Check.sentence("is refused and answers false if (x,y) is not a pixel; then nothing changes");
+        for (Situation situation : Situation.all()) {
+            Unchanged unchanged = new Unchanged(situation);
+            for (int[] point : Wrong.points(situation.width(), situation.height())) {
+                for (int value = -1; value <= 1; value++) {
+                    String call = "setPixel(" + point[0] + ", " + point[1] + ", " + value + ")";
+                    boolean got = unchanged.tracer().setPixel(point[0], point[1], value);
+                    Check.due(situation.name + ": " + call, got, false);
+                    unchanged.look(call);
+                }
+            }
+            unchanged.end("refused setPixel");
         }
     }
 
-    private static void onlyThatPixel() {
-        for (int cell = 0; cell < 256; cell++) {
-            BorderTracer tracer = new BorderTracer(16, 16);
-            tracer.setPixel(cell % 16, cell / 16, 1);
-            for (int other = 0; other < 256; other++) {
-                int got = tracer.getPixel(other % 16, other / 16);
-                Check.due("pixel " + other + " after " + cell, got, other == cell ? 1 : 0);
+    private static void nonzeroSets() {
+        Check.sentence("pixel (x,y) becomes 1 if value != 0 (any nonzero value)");
+        becomes(NONZERO, 1);
+    }
+
+    private static void negativeSets() {
+        Check.sentence("pixel (x,y) becomes 1 if value != 0 (negative ones included)");
+        becomes(NEGATIVE, 1);
+    }
+
+    private static void zeroClears() {
+        Check.sentence("else 0; the call answers true");
+        becomes(new int[] {0}, 0);
+    }
+
+    /** At the four corners and inside, over a 0 and over a 1. */
+    private static void becomes(int[] values, int want) {
+        int[][] places = {{0, 0}, {2, 0}, {0, 3}, {2, 3}, {1, 2}};
+        for (int[] place : places) {
+            for (int value : values) {
+                for (int old = 0; old <= 1; old++) {
+                    BorderTracer tracer = new BorderTracer(3, 4);
+                    Check.due("setPixel to " + old, tracer.setPixel(place[0], place[1], old), true);
+                    Check.due("setPixel to " + value, tracer.setPixel(place[0], place[1], value), true);
+                    Check.due("pixel " + value + " over " + old, tracer.getPixel(place[0], place[1]), want);
+                }
             }
         }
     }
 
     private static void invalidates() {
-        for (int value = 0; value < 2; value++) {
-            BorderTracer tracer = Pictures.drawAndTrace(Pictures.RING);
-            tracer.fillAll();
-            // The pixel (1,1) is already 1, so for value 1 nothing but the state changes.
-            Check.due("setPixel", tracer.setPixel(1, 1, value), true);
-            Check.due("contourCount", tracer.contourCount(), BorderTracer.NOT_TRACED);
-            Check.due("contourKind", tracer.contourKind(0), BorderTracer.KIND_NONE);
-            Check.due("contourParent", tracer.contourParent(0), BorderTracer.INVALID);
-            Check.due("contourStart", tracer.contourStart(0), -1);
-            Check.due("contourLength", tracer.contourLength(0), 0);
-            Check.due("contourArea", tracer.contourArea(0), 0);
-            Check.due("hasEdge", tracer.hasEdge(0, 1, 1, BorderTracer.SIDE_TOP), false);
-            Check.due("contourOf", tracer.contourOf(1, 1), BorderTracer.NO_CONTOUR);
-            Check.due("toggleFill", tracer.toggleFill(0), false);
-            Check.due("fillAll", tracer.fillAll(), BorderTracer.REFUSED);
-            Check.due("fill plane empty", Pictures.filled(tracer, 8, 8).contains("#"), false);
+        Check.sentence("then INVALIDATE happens");
+        for (Situation situation : Situation.all()) {
+            BorderTracer tracer = situation.make();
+            int x = situation.width() - 1;
+            int y = situation.height() - 1;
+            Check.due(situation.name + ": setPixel", tracer.setPixel(x, y, 1 - tracer.getPixel(x, y)), true);
+            Invalidated.look(situation.name + ": last pixel changed:", tracer);
         }
     }
 
-    private static void refused() {
-        BorderTracer tracer = Pictures.drawAndTrace(Pictures.RING);
-        tracer.toggleFill(1);
-        String before = Pictures.state(tracer, 8, 8);
-        for (int wrong : Pictures.NOT_A_COORDINATE) {
-            Check.due("setPixel x " + wrong, tracer.setPixel(wrong, 1, 1), false);
-            Check.due("setPixel y " + wrong, tracer.setPixel(1, wrong, 1), false);
-            Check.due("setPixel both " + wrong, tracer.setPixel(wrong, wrong, 0), false);
+    private static void invalidatesUnchanged() {
+        Check.sentence("also when the value did not change; the call answers true");
+        for (Situation situation : Situation.all()) {
+            for (int y = 0; y < situation.height(); y++) {
+                for (int x = 0; x < situation.width(); x += 3) {
+                    BorderTracer tracer = situation.make();
+                    int old = tracer.getPixel(x, y);
+                    Check.due(situation.name + ": setPixel", tracer.setPixel(x, y, old * -7), true);
+                    Check.due(situation.name + ": pixel", tracer.getPixel(x, y), old);
+                    Check.due(situation.name + ": count", tracer.contourCount(), BorderTracer.NOT_TRACED);
+                    Check.due(situation.name + ": kind", tracer.contourKind(0), BorderTracer.KIND_NONE);
+                    Check.due(situation.name + ": filled", Pictures.filled(tracer, 16, 16).contains("#"), false);
+                }
+            }
+            BorderTracer tracer = situation.make();
+            tracer.setPixel(0, 0, tracer.getPixel(0, 0));
+            Invalidated.look(situation.name + ": first pixel set as it was:", tracer);
         }
-        for (int wrong = 8; wrong < 16; wrong++) {
-            Check.due("setPixel x " + wrong, tracer.setPixel(wrong, 1, 0), false);
-            Check.due("setPixel y " + wrong, tracer.setPixel(1, wrong, 1), false);
+    }
+
+    private static void noOtherPixel() {
+        Check.sentence("No other pixel changes.");
+        for (int value = 0; value <= 1; value++) {
+            for (int cell = 0; cell < 256; cell++) {
+                BorderTracer tracer = new BorderTracer(16, 16);
+                for (int y = 0; y < 16; y++) {
+                    tracer.setRow(y, value - 1);
+                }
+                tracer.setPixel(cell % 16, cell / 16, value);
+                for (int other = 0; other < 256; other++) {
+                    int got = tracer.getPixel(other % 16, other / 16);
+                    Check.due("pixel " + other + " after " + cell, got, other == cell ? value : 1 - value);
+                }
+            }
         }
-        Check.due("refused calls change nothing", Pictures.state(tracer, 8, 8).equals(before), true);
     }
 }

@@ -18,45 +18,93 @@ public final class Promise13Test {
     };
 
     public static void main(String[] args) {
-        numbers(Pictures.NESTED, NESTED_NUMBERS);
-        numbers(Pictures.DIAMOND, DIAMOND_NUMBERS);
-        numbers(new String[] {"##.", "#.#", "###"}, new String[] {"00-", "010", "000"});
-        numbers(new String[] {"###", "#.#", "#.#"}, new String[] {"000", "0-0", "0-0"});
-        numbers(new String[] {"..", ".."}, new String[] {"--", "--"});
+        notTraced();
+        notAPixel();
+        outside();
+        regions();
+        changesNothing();
         Check.finish();
     }
 
-    private static void numbers(String[] picture, String[] want) {
-        BorderTracer tracer = Pictures.draw(picture);
-        nothing("not traced", tracer, picture);
-        tracer.trace();
-        String before = Pictures.state(tracer, picture[0].length(), picture.length);
+    private static void notTraced() {
+        Check.sentence("contourOf(x, y) answers NO_CONTOUR (-1) if TRACED is false");
+        for (Situation situation : Situation.notTraced()) {
+            BorderTracer tracer = situation.make();
+            for (int y = -1; y <= 16; y++) {
+                for (int x = -1; x <= 16; x++) {
+                    Check.due(situation.name + ": " + x + " " + y, tracer.contourOf(x, y), -1);
+                }
+            }
+        }
+    }
+
+    private static void notAPixel() {
+        Check.sentence("contourOf(x, y) answers NO_CONTOUR (-1) if (x,y) is not a pixel");
+        for (Situation situation : Situation.all()) {
+            noPixels(situation.name, situation.make(), situation.width(), situation.height());
+        }
+        for (int size = 0; size < 256; size++) {
+            int width = 1 + size % 16;
+            int height = 1 + size / 16;
+            BorderTracer tracer = Pictures.drawAndTrace(Situation.full(width, height));
+            noPixels("full " + width + " x " + height, tracer, width, height);
+        }
+    }
+
+    private static void noPixels(String name, BorderTracer tracer, int width, int height) {
+        for (int[] point : Wrong.points(width, height)) {
+            String call = name + ": contourOf(" + point[0] + ", " + point[1] + ")";
+            Check.due(call, tracer.contourOf(point[0], point[1]), BorderTracer.NO_CONTOUR);
+        }
+    }
+
+    private static void outside() {
+        Check.sentence("contourOf(x, y) answers NO_CONTOUR (-1) if pixel (x,y) lies in OUTSIDE");
+        numbers(new String[] {"..", ".."}, "--", "--");
+        numbers(new String[] {"."}, "-");
+        numbers(new String[] {"###", "#.#", "#.#"}, "000", "0-0", "0-0");
+        numbers(new String[] {"#.#", "#.#", "###"}, "0-0", "0-0", "000");
+        numbers(new String[] {"###", "..#", "###"}, "000", "--0", "000");
+        numbers(new String[] {"###", "#..", "###"}, "000", "0--", "000");
+        BorderTracer empty = new BorderTracer(16, 16);
+        empty.trace();
+        for (int cell = 0; cell < 256; cell++) {
+            Check.due("empty: " + cell, empty.contourOf(cell % 16, cell / 16), BorderTracer.NO_CONTOUR);
+        }
+    }
+
+    private static void regions() {
+        Check.sentence("Otherwise it answers the number of the contour whose region holds pixel (x,y): for a "
+            + "foreground pixel the outer contour of its foreground component, for a background pixel in a hole the "
+            + "hole contour of that hole.");
+        numbers(Pictures.NESTED, NESTED_NUMBERS);
+        numbers(Pictures.DIAMOND, DIAMOND_NUMBERS);
+        numbers(new String[] {"##.", "#.#", "###"}, "00-", "010", "000");
+        numbers(new String[] {"#"}, "0");
+        numbers(new String[] {"#.#.#"}, "0-1-2");
+    }
+
+    private static void numbers(String[] picture, String... want) {
+        BorderTracer tracer = Pictures.drawAndTrace(picture);
         for (int y = 0; y < want.length; y++) {
             for (int x = 0; x < want[y].length(); x++) {
                 char digit = want[y].charAt(x);
                 Check.due("contourOf " + x + " " + y, tracer.contourOf(x, y), digit == '-' ? -1 : digit - '0');
             }
         }
-        for (int wrong : Pictures.NOT_A_COORDINATE) {
-            Check.due("contourOf x " + wrong, tracer.contourOf(wrong, 0), -1);
-            Check.due("contourOf y " + wrong, tracer.contourOf(0, wrong), -1);
-            Check.due("contourOf both " + wrong, tracer.contourOf(wrong, wrong), -1);
-        }
-        for (int wrong = 14; wrong < 16; wrong++) {
-            Check.due("contourOf x " + wrong, tracer.contourOf(wrong, 0), -1);
-            Check.due("contourOf y " + wrong, tracer.contourOf(0, wrong), -1);
-        }
-        String after = Pictures.state(tracer, picture[0].length(), picture.length);
-        Check.due("contourOf changes nothing", after.equals(before), true);
-        tracer.setRow(0, 0);
-        nothing("invalidated", tracer, picture);
     }
 
-    private static void nothing(String when, BorderTracer tracer, String[] picture) {
-        for (int y = 0; y < picture.length; y++) {
-            for (int x = 0; x < picture[y].length(); x++) {
-                Check.due(when, tracer.contourOf(x, y), BorderTracer.NO_CONTOUR);
+    private static void changesNothing() {
+        Check.sentence("It changes nothing.");
+        for (Situation situation : Situation.all()) {
+            Unchanged unchanged = new Unchanged(situation);
+            for (int y = -1; y <= situation.height(); y++) {
+                for (int x = -1; x <= situation.width(); x++) {
+                    unchanged.tracer().contourOf(x, y);
+                    unchanged.look("contourOf(" + x + ", " + y + ")");
+                }
             }
+            unchanged.end("contourOf");
         }
     }
 }

@@ -1,8 +1,22 @@
 /** Promise 16: getFilled. */
 public final class Promise16Test {
     private static final String[] EMPTY = {"...", "...", "...", "..."};
+    private static final PlaneAnswers FILLED =
+        new PlaneAnswers("getFilled", BorderTracer::getFilled, situation -> situation.filled);
 
     public static void main(String[] args) {
+        Check.sentence("getFilled(x, y) answers 0 if (x,y) is not a pixel");
+        FILLED.notAPixel();
+        Check.sentence("It is answered in every state");
+        FILLED.inEveryState();
+        Check.sentence("changes nothing");
+        FILLED.changesNothing();
+        value();
+        Check.finish();
+    }
+
+    private static void value() {
+        Check.sentence("else its fill plane value (0 or 1)");
         BorderTracer tracer = Pictures.draw("###", "#.#", "###", "...");
         picture("not traced", tracer, EMPTY);
         tracer.trace();
@@ -17,31 +31,9 @@ public final class Promise16Test {
         picture("after a refused setPixel", tracer, "###", "###", "###", "...");
         tracer.setPixel(0, 3, 0);
         picture("invalidated", tracer, EMPTY);
-        changesNothing();
-        Check.finish();
     }
 
     private static void picture(String when, BorderTracer tracer, String... rows) {
-        for (int y = -1; y <= 17; y++) {
-            for (int x = -1; x <= 17; x++) {
-                boolean in = y >= 0 && y < rows.length && x >= 0 && x < rows[0].length();
-                int want = in && rows[y].charAt(x) == '#' ? 1 : 0;
-                Check.due(when + " getFilled " + x + " " + y, tracer.getFilled(x, y), want);
-            }
-        }
-        for (int wrong : Pictures.NOT_A_COORDINATE) {
-            Check.due(when + " getFilled x " + wrong, tracer.getFilled(wrong, 0), 0);
-            Check.due(when + " getFilled y " + wrong, tracer.getFilled(0, wrong), 0);
-            Check.due(when + " getFilled both " + wrong, tracer.getFilled(wrong, wrong), 0);
-        }
-    }
-
-    private static void changesNothing() {
-        BorderTracer tracer = Pictures.drawAndTrace(Pictures.RING);
-        tracer.toggleFill(0);
-        String before = Pictures.state(tracer, 8, 8);
-        tracer.getFilled(3, 3);
-        tracer.getFilled(8, -1);
-        Check.due("getFilled changes nothing", Pictures.state(tracer, 8, 8).equals(before), true);
+        Check.due(when, Pictures.filled(tracer, 3, 4), Pictures.lines(rows));
     }
 }
