@@ -126,7 +126,8 @@ public final class AnyIntTest {
         for (Situation situation : Situation.all()) {
             Unchanged unchanged = new Unchanged(situation);
             for (int[] point : Wrong.points(situation.width(), situation.height())) {
-                fixedAnswers(situation.name, unchanged.tracer(), point[0], point[1]);
+                String call = "calls for " + point[0] + " " + point[1];
+                unchanged.by(call, tracer -> fixedAnswers(situation.name, tracer, point[0], point[1]));
             }
             unchanged.end("calls for points that are no pixels");
         }
@@ -149,18 +150,13 @@ public final class AnyIntTest {
         Check.sentence("A REFUSED call changes nothing.");
         for (Situation situation : Situation.all()) {
             Unchanged unchanged = new Unchanged(situation);
-            BorderTracer tracer = unchanged.tracer();
             int width = situation.width();
             int height = situation.height();
-            Check.due(situation.name + ": setPixel", tracer.setPixel(width, height - 1, 1), false);
-            unchanged.look("setPixel");
-            Check.due(situation.name + ": setRow", tracer.setRow(height, -1), false);
-            unchanged.look("setRow");
-            Check.due(situation.name + ": toggleFill", tracer.toggleFill(situation.n()), false);
-            unchanged.look("toggleFill");
+            unchanged.refused("setPixel(W, H-1, 1)", tracer -> tracer.setPixel(width, height - 1, 1));
+            unchanged.refused("setRow(H, -1)", tracer -> tracer.setRow(height, -1));
+            unchanged.refused("toggleFill(n)", tracer -> tracer.toggleFill(situation.n()));
             if (situation.count < 0) {
-                Check.due(situation.name + ": fillAll", tracer.fillAll(), BorderTracer.REFUSED);
-                unchanged.look("fillAll");
+                unchanged.refused("fillAll()", tracer -> tracer.fillAll() != BorderTracer.REFUSED);
             }
             unchanged.end("refused calls");
         }

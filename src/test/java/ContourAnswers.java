@@ -49,15 +49,17 @@ final class ContourAnswers {
         for (Situation situation : Situation.all()) {
             Unchanged unchanged = new Unchanged(situation);
             for (int k = 0; k < situation.n(); k++) {
-                question.ask(unchanged.tracer(), k);
-                unchanged.look(name + "(" + k + ")");
+                asked(unchanged, k);
             }
             for (int k : Wrong.numbers(situation.n())) {
-                question.ask(unchanged.tracer(), k);
-                unchanged.look(name + "(" + k + ")");
+                asked(unchanged, k);
             }
             unchanged.end(name);
         }
+    }
+
+    private void asked(Unchanged unchanged, int k) {
+        unchanged.by(name + "(" + k + ")", tracer -> question.ask(tracer, k));
     }
 
     private void wrong(Situation situation, int[] numbers) {

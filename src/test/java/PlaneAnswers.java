@@ -50,16 +50,18 @@ final class PlaneAnswers {
             Unchanged unchanged = new Unchanged(situation);
             for (int y = 0; y < situation.height(); y++) {
                 for (int x = 0; x < situation.width(); x++) {
-                    question.ask(unchanged.tracer(), x, y);
-                    unchanged.look(name + "(" + x + ", " + y + ")");
+                    asked(unchanged, x, y);
                 }
             }
             for (int[] point : Wrong.points(situation.width(), situation.height())) {
-                question.ask(unchanged.tracer(), point[0], point[1]);
-                unchanged.look(name + "(" + point[0] + ", " + point[1] + ")");
+                asked(unchanged, point[0], point[1]);
             }
             unchanged.end(name);
         }
+    }
+
+    private void asked(Unchanged unchanged, int x, int y) {
+        unchanged.by(name + "(" + x + ", " + y + ")", tracer -> question.ask(tracer, x, y));
     }
 
     private void noPixels(String made, BorderTracer tracer, int width, int height) {

@@ -22,18 +22,12 @@ public final class Promise03Test {
             Unchanged unchanged = new Unchanged(situation);
             for (int y : Wrong.coordinates(situation.height())) {
                 if (y < 0 == negative) {
-                    refusedRow(situation, unchanged, y, -1);
-                    refusedRow(situation, unchanged, y, 0);
+                    unchanged.refused("setRow(" + y + ", -1)", tracer -> tracer.setRow(y, -1));
+                    unchanged.refused("setRow(" + y + ", 0)", tracer -> tracer.setRow(y, 0));
                 }
             }
             unchanged.end("refused setRow");
         }
-    }
-
-    private static void refusedRow(Situation situation, Unchanged unchanged, int y, int bits) {
-        String call = "setRow(" + y + ", " + bits + ")";
-        Check.due(situation.name + ": " + call, unchanged.tracer().setRow(y, bits), false);
-        unchanged.look(call);
     }
 
     private static void bits() {

@@ -48,7 +48,7 @@ public final class Promise06Test {
         Check.sentence("It changes nothing.");
         for (Situation situation : Situation.all()) {
             Unchanged unchanged = new Unchanged(situation);
-            unchanged.tracer().contourCount();
+            unchanged.by("contourCount()", BorderTracer::contourCount);
             unchanged.end("contourCount");
         }
     }

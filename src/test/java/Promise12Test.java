@@ -170,17 +170,17 @@ public final class Promise12Test {
         Check.sentence("It changes nothing.");
         for (Situation situation : Situation.all()) {
             Unchanged unchanged = new Unchanged(situation);
-            BorderTracer tracer = unchanged.tracer();
             for (int k = -1; k <= situation.n(); k++) {
-                tracer.hasEdge(k, 0, 0, BorderTracer.SIDE_LEFT);
-                unchanged.look("hasEdge(" + k + ", 0, 0, 3)");
-                tracer.hasEdge(k, situation.width(), 0, BorderTracer.SIDE_LEFT);
-                unchanged.look("hasEdge(" + k + ", W, 0, 3)");
-                tracer.hasEdge(k, 0, 0, 4);
-                unchanged.look("hasEdge(" + k + ", 0, 0, 4)");
+                asked(unchanged, k, 0, BorderTracer.SIDE_LEFT);
+                asked(unchanged, k, situation.width(), BorderTracer.SIDE_LEFT);
+                asked(unchanged, k, 0, 4);
             }
             unchanged.end("hasEdge");
         }
+    }
+
+    private static void asked(Unchanged unchanged, int k, int x, int side) {
+        unchanged.by("hasEdge(" + k + ", " + x + ", 0, " + side + ")", tracer -> tracer.hasEdge(k, x, 0, side));
     }
 
     private static String bit(boolean edge) {

@@ -100,11 +100,14 @@ public final class Promise13Test {
             Unchanged unchanged = new Unchanged(situation);
             for (int y = -1; y <= situation.height(); y++) {
                 for (int x = -1; x <= situation.width(); x++) {
-                    unchanged.tracer().contourOf(x, y);
-                    unchanged.look("contourOf(" + x + ", " + y + ")");
+                    asked(unchanged, x, y);
                 }
             }
             unchanged.end("contourOf");
         }
+    }
+
+    private static void asked(Unchanged unchanged, int x, int y) {
+        unchanged.by("contourOf(" + x + ", " + y + ")", tracer -> tracer.contourOf(x, y));
     }
 }

@@ -18,9 +18,7 @@ public final class Promise14Test {
         for (Situation situation : notTraced ? Situation.notTraced() : Situation.traced()) {
             Unchanged unchanged = new Unchanged(situation);
             for (int k : notTraced ? Wrong.numbers(0) : wrongNumbers(why, situation)) {
-                String call = "toggleFill(" + k + ")";
-                Check.due(situation.name + ": " + call, unchanged.tracer().toggleFill(k), false);
-                unchanged.look(call);
+                unchanged.refused("toggleFill(" + k + ")", tracer -> tracer.toggleFill(k));
             }
             unchanged.end("refused toggleFill");
         }

@@ -14,9 +14,8 @@ public final class Promise15Test {
         Check.sentence("fillAll() is refused and answers REFUSED (-1) if TRACED is false; then nothing changes.");
         for (Situation situation : Situation.notTraced()) {
             Unchanged unchanged = new Unchanged(situation);
-            Check.due(situation.name + ": fillAll", unchanged.tracer().fillAll(), -1);
-            unchanged.look("fillAll");
-            Check.due(situation.name + ": fillAll again", unchanged.tracer().fillAll(), -1);
+            unchanged.by("fillAll()", tracer -> Check.due(situation.name + ": fillAll()", tracer.fillAll(), -1));
+            unchanged.by("fillAll()", tracer -> Check.due(situation.name + ": again", tracer.fillAll(), -1));
             unchanged.end("refused fillAll");
         }
     }

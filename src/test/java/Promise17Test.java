@@ -97,7 +97,7 @@ public final class Promise17Test {
         Check.sentence("It changes nothing.");
         for (Situation situation : Situation.all()) {
             Unchanged unchanged = new Unchanged(situation);
-            unchanged.tracer().filledEqualsBitmap();
+            unchanged.by("filledEqualsBitmap()", BorderTracer::filledEqualsBitmap);
             unchanged.end("filledEqualsBitmap");
         }
     }

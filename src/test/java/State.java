@@ -1,47 +1,82 @@
-/** Every answer that an object gives of its state, as one text, so that two states can be compared. */
+import java.util.List;
+import java.util.function.Function;
+
+/** What an object answers of its state, as text, so that two states can be compared. */
 final class State {
     private static final int FROM = -1;
     private static final int TO = 17;
 
+    private interface Plane {
+        int at(BorderTracer tracer, int x, int y);
+    }
+
+    private interface Contour {
+        int of(BorderTracer tracer, int k);
+    }
+
+    /** One part for each question, so that no question's own doings hide what another would show. */
+    static final List<Function<BorderTracer, String>> PARTS = List.of(
+        tracer -> "count " + tracer.contourCount(),
+        tracer -> "equal " + tracer.filledEqualsBitmap(),
+        tracer -> "pixels" + plane(tracer, BorderTracer::getPixel),
+        tracer -> "filled" + plane(tracer, BorderTracer::getFilled),
+        tracer -> "contours of pixels" + plane(tracer, BorderTracer::contourOf),
+        tracer -> "kinds" + contours(tracer, BorderTracer::contourKind),
+        tracer -> "parents" + contours(tracer, BorderTracer::contourParent),
+        tracer -> "starts" + contours(tracer, BorderTracer::contourStart),
+        tracer -> "lengths" + contours(tracer, BorderTracer::contourLength),
+        tracer -> "areas" + contours(tracer, BorderTracer::contourArea),
+        tracer -> "edges" + edges(tracer));
+
     private State() {
     }
 
+    /** All parts, asked of one object. */
     static String of(BorderTracer tracer) {
         StringBuilder text = new StringBuilder();
-        text.append("count ").append(tracer.contourCount());
-        text.append(", equal ").append(tracer.filledEqualsBitmap()).append('\n');
-        for (int y = FROM; y <= TO; y++) {
-            for (int x = FROM; x <= TO; x++) {
-                text.append(tracer.getPixel(x, y)).append(tracer.getFilled(x, y)).append(',');
-                text.append(tracer.contourOf(x, y)).append(' ');
-            }
-            text.append('\n');
-        }
-        return text + contours(tracer);
-    }
-
-    /** The contours alone, without the planes. */
-    static String contours(BorderTracer tracer) {
-        StringBuilder text = new StringBuilder();
-        for (int k = -1; k <= tracer.contourCount(); k++) {
-            text.append(k).append(": kind ").append(tracer.contourKind(k));
-            text.append(", parent ").append(tracer.contourParent(k));
-            text.append(", start ").append(tracer.contourStart(k));
-            text.append(", length ").append(tracer.contourLength(k));
-            text.append(", area ").append(tracer.contourArea(k));
-            text.append(", edges ").append(edges(tracer, k)).append('\n');
+        for (Function<BorderTracer, String> part : PARTS) {
+            text.append(part.apply(tracer)).append('\n');
         }
         return text.toString();
     }
 
-    private static String edges(BorderTracer tracer, int k) {
+    /** The contours alone, without the planes. */
+    static String contours(BorderTracer tracer) {
+        StringBuilder text = new StringBuilder(PARTS.get(0).apply(tracer));
+        for (Function<BorderTracer, String> part : PARTS.subList(4, PARTS.size())) {
+            text.append(part.apply(tracer)).append('\n');
+        }
+        return text.toString();
+    }
+
+    private static String plane(BorderTracer tracer, Plane plane) {
         StringBuilder text = new StringBuilder();
         for (int y = FROM; y <= TO; y++) {
+            text.append('\n');
             for (int x = FROM; x <= TO; x++) {
-                for (int side = 0; side < 4; side++) {
-                    if (tracer.hasEdge(k, x, y, side)) {
-                        text.append(x).append(' ').append(y).append(' ').append(side).append(';');
-                    }
+                text.append(plane.at(tracer, x, y)).append(' ');
+            }
+        }
+        return text.toString();
+    }
+
+    /** The numbers go past every contour of the situations that the tests make. */
+    private static String contours(BorderTracer tracer, Contour contour) {
+        StringBuilder text = new StringBuilder();
+        for (int k = -1; k <= 9; k++) {
+            text.append(' ').append(contour.of(tracer, k));
+        }
+        return text.toString();
+    }
+
+    private static String edges(BorderTracer tracer) {
+        StringBuilder text = new StringBuilder();
+        for (int k = -1; k <= 9; k++) {
+            for (int triple = 0; triple < 18 * 18 * 4; triple++) {
+                int x = triple / 4 % 18 - 1;
+                int y = triple / 72 - 1;
+                if (tracer.hasEdge(k, x, y, triple % 4)) {
+                    text.append(' ').append(k).append(',').append(triple);
                 }
             }
         }

@@ -1,37 +1,64 @@
+import java.util.ArrayList;
+import java.util.List;
+import java.util.function.Consumer;
+import java.util.function.Function;
+import java.util.function.Predicate;
+
 /** Looks whether calls change nothing, in what can be asked at once and in what later calls answer. */
 final class Unchanged {
-    private final String name;
+    private final Situation situation;
     private final BorderTracer called;
-    private final BorderTracer left;
     private final String before;
+    private final List<Consumer<BorderTracer>> calls = new ArrayList<>();
 
     Unchanged(Situation situation) {
-        name = situation.name;
+        this.situation = situation;
         called = situation.make();
-        left = situation.make();
-        before = State.of(left);
+        before = State.of(situation.make());
     }
 
-    BorderTracer tracer() {
-        return called;
-    }
-
-    /** After a call. */
-    void look(String call) {
+    /** A call whose answer is looked at elsewhere. */
+    void by(String name, Consumer<BorderTracer> call) {
+        calls.add(call);
+        call.accept(called);
         String after = State.of(called);
         if (!after.equals(before)) {
-            Check.due(name + ": the state after " + call, after, before);
+            Check.due(situation.name + ": the state after " + name, after, before);
         }
     }
 
-    /** After all calls: a change that no question shows would show in what follows, against an object left alone. */
-    void end(String calls) {
-        Check.due(name + ": the state after " + calls, State.of(called), before);
-        Check.due(name + ": fillAll after " + calls, called.fillAll(), left.fillAll());
-        Check.due(name + ": the state filled after " + calls, State.of(called), State.of(left));
-        Check.due(name + ": trace after " + calls, called.trace(), left.trace());
-        Check.due(name + ": the state traced after " + calls, State.of(called), State.of(left));
-        Check.due(name + ": fillAll traced after " + calls, called.fillAll(), left.fillAll());
-        Check.due(name + ": the state at last after " + calls, State.of(called), State.of(left));
+    /** A call that has to answer false as well. */
+    void refused(String name, Predicate<BorderTracer> call) {
+        by(name, tracer -> Check.due(situation.name + ": " + name, call.test(tracer), false));
+    }
+
+    /** To be called at the end: looks once more, question by question, and at what follows. */
+    void end(String name) {
+        questionByQuestion("all of " + name, calls);
+        questionByQuestion("the first of " + name, calls.subList(0, 1));
+        questionByQuestion("the last of " + name, calls.subList(calls.size() - 1, calls.size()));
+        laterCalls(name);
+    }
+
+    /** Each question is asked of an object that has seen no other question, only the calls. */
+    private void questionByQuestion(String name, List<Consumer<BorderTracer>> some) {
+        for (Function<BorderTracer, String> part : State.PARTS) {
+            BorderTracer tracer = situation.make();
+            for (Consumer<BorderTracer> call : some) {
+                call.accept(tracer);
+            }
+            Check.due(situation.name + ": after " + name, part.apply(tracer), part.apply(situation.make()));
+        }
+    }
+
+    /** A change that no question shows would show in what follows, against an object left alone. */
+    private void laterCalls(String name) {
+        BorderTracer left = situation.make();
+        Check.due(situation.name + ": fillAll after " + name, called.fillAll(), left.fillAll());
+        Check.due(situation.name + ": the state filled after " + name, State.of(called), State.of(left));
+        Check.due(situation.name + ": trace after " + name, called.trace(), left.trace());
+        Check.due(situation.name + ": the state traced after " + name, State.of(called), State.of(left));
+        Check.due(situation.name + ": fillAll traced after " + name, called.fillAll(), left.fillAll());
+        Check.due(situation.name + ": the state at last after " + name, State.of(called), State.of(left));
     }
 }
