@@ -42,7 +42,8 @@ final class Check {
         madeOfSentence++;
         if (!right) {
             wrong++;
-            System.out.println("\"" + sentence + "\": " + call + " answered " + got + ", due is " + want);
+            String words = sentence.isEmpty() ? "" : "\"" + sentence + "\": ";
+            System.out.println(words + call + " answered " + got + ", due is " + want);
         }
     }
 
