@@ -33,6 +33,8 @@ public final class FaceTest {
         Check.due("public", Modifier.isPublic(modifiers), true);
         Check.due("final", Modifier.isFinal(modifiers), true);
         Check.due("nested classes", BorderTracer.class.getDeclaredClasses().length, 0);
+        Check.due("superclass", BorderTracer.class.getSuperclass().getName(), "java.lang.Object");
+        Check.due("interfaces", BorderTracer.class.getInterfaces().length, 0);
         privateNamesAreTheirOwn();
         Check.finish();
     }

@@ -43,11 +43,7 @@ public final class Promise08Test {
             + "contour is always the outer contour whose region is FG(k).");
         Numbers numbers = new Numbers(8);
         for (int round = 0; round < 300; round++) {
-            BorderTracer tracer = new BorderTracer(16, 16);
-            for (int y = 0; y < 16; y++) {
-                tracer.setRow(y, numbers.next() | numbers.next());
-            }
-            tracer.trace();
+            BorderTracer tracer = Rasters.mixed(16, 16, numbers);
             for (int k = 0; k < tracer.contourCount(); k++) {
                 alternates(tracer, k);
             }

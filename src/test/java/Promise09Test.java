@@ -56,11 +56,7 @@ public final class Promise09Test {
         Check.sentence("Over k = 0..n-1 these answers strictly increase.");
         Numbers numbers = new Numbers(9);
         for (int round = 0; round < 500; round++) {
-            BorderTracer tracer = new BorderTracer(1 + numbers.below(16), 1 + numbers.below(16));
-            for (int y = 0; y < 16; y++) {
-                tracer.setRow(y, numbers.next() | numbers.next());
-            }
-            tracer.trace();
+            BorderTracer tracer = Rasters.mixed(1 + numbers.below(16), 1 + numbers.below(16), numbers);
             for (int k = 0; k < tracer.contourCount(); k++) {
                 boolean later = tracer.contourStart(k) > tracer.contourStart(k - 1);
                 Check.due("round " + round + ": " + k + " starts later", later, true);

@@ -14,7 +14,7 @@ public final class Promise10Test {
         LENGTHS.changesNothing();
         ordinary();
         atLeastFour();
-        longest();
+        longBorders();
         Check.finish();
     }
 
@@ -44,9 +44,9 @@ public final class Promise10Test {
         }
     }
 
-    /** The longest borders there are: of single pixels that touch at corners only, and of the holes between them. */
-    private static void longest() {
-        Check.sentence("LENGTH(k), the number of edges of contour k: the longest");
+    /** Of full rasters, of single pixels that touch at corners only, of a comb. */
+    private static void longBorders() {
+        Check.sentence("LENGTH(k), the number of edges of contour k: long borders");
         LENGTHS.due(Situation.full(16, 16), 64);
         LENGTHS.due(Situation.full(16, 1), 34);
         LENGTHS.due(Situation.full(1, 16), 34);
@@ -68,5 +68,12 @@ public final class Promise10Test {
         }
         // No two foreground pixels share a side, so each has four edges.
         Check.due("diagonals' edges together", sum, 4 * (8 * 8 + 8 * 4));
+        BorderTracer comb = new BorderTracer(16, 16);
+        for (int y = 0; y < 16; y++) {
+            comb.setRow(y, y == 0 ? -1 : 0x5555);
+        }
+        comb.trace();
+        // 136 pixels with 4 sides each, of which 135 pairs share one.
+        Check.due("comb's border", comb.contourLength(0), 4 * 136 - 2 * 135);
     }
 }

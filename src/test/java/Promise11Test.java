@@ -23,7 +23,7 @@ public final class Promise11Test {
         Check.sentence("else AREA(k), which is never 0");
         Numbers numbers = new Numbers(11);
         for (int round = 0; round < 300; round++) {
-            BorderTracer tracer = mixed(numbers);
+            BorderTracer tracer = Rasters.mixed(16, 16, numbers);
             for (int k = 0; k < tracer.contourCount(); k++) {
                 Check.due("area of " + k + " is 0", tracer.contourArea(k) == 0, false);
             }
@@ -76,7 +76,7 @@ public final class Promise11Test {
         childrenOf(Pictures.drawAndTrace(Pictures.NESTED));
         Numbers numbers = new Numbers(12);
         for (int round = 0; round < 100; round++) {
-            childrenOf(mixed(numbers));
+            childrenOf(Rasters.mixed(16, 16, numbers));
         }
     }
 
@@ -98,14 +98,5 @@ public final class Promise11Test {
             size += tracer.contourOf(cell % 16, cell / 16) == k ? 1 : 0;
         }
         return size;
-    }
-
-    private static BorderTracer mixed(Numbers numbers) {
-        BorderTracer tracer = new BorderTracer(16, 16);
-        for (int y = 0; y < 16; y++) {
-            tracer.setRow(y, numbers.next() | numbers.next());
-        }
-        tracer.trace();
-        return tracer;
     }
 }

@@ -147,12 +147,7 @@ public final class Promise12Test {
         edgesOf("diamond", Pictures.drawAndTrace(Pictures.DIAMOND));
         Numbers numbers = new Numbers(13);
         for (int round = 0; round < 30; round++) {
-            BorderTracer tracer = new BorderTracer(16, 16);
-            for (int y = 0; y < 16; y++) {
-                tracer.setRow(y, numbers.next() | numbers.next());
-            }
-            tracer.trace();
-            edgesOf("mixed " + round, tracer);
+            edgesOf("mixed " + round, Rasters.mixed(16, 16, numbers));
         }
     }
 

@@ -1,22 +1,9 @@
-import java.util.HashSet;
-import java.util.Set;
-
-/** The words under "Terms" that draw a boundary: of the raster, of what is joined, of what is valid. */
+/** The words under "Terms" on the raster, on what is joined, and on the state of an object. */
 public final class TermsTest {
-    /** Rings in rings: the contours 0 to 3 lie one in the other, each one pixel further in. */
-    private static final String[] TARGET = {
-        "#######",
-        "#.....#",
-        "#.###.#",
-        "#.#.#.#",
-        "#.###.#",
-        "#.....#",
-        "#######"
-    };
-
     public static void main(String[] args) {
         sides();
         pixels();
+        values();
         freshPixels();
         freshFillPlane();
         freshNotTraced();
@@ -26,17 +13,11 @@ public final class TermsTest {
         foregroundJoins();
         backgroundJoins();
         namedSides();
+        eightNeighbours();
+        outerCellsAreOutside();
         outsideAtEachRim();
         outsideByLongWays();
         holes();
-        contoursOnlyWhileTraced();
-        oneContourEach();
-        keyPixelsAreForeground();
-        keyPixelsDiffer();
-        numberedByKeyPixels();
-        leftOfTheFirstPixel();
-        descendants();
-        interiors();
         invalidate();
         validNumbers();
         Check.finish();
@@ -73,6 +54,19 @@ public final class TermsTest {
             Check.due("0 H", tracer.setPixel(0, height, 1), false);
             Check.due("W-1 H", tracer.setPixel(width - 1, height, 1), false);
             Check.due("W H-1", tracer.setPixel(width, height - 1, 1), false);
+        }
+    }
+
+    private static void values() {
+        Check.sentence("its value is 0 (background) or 1 (foreground)");
+        for (int value : Wrong.EXTREMES) {
+            BorderTracer tracer = new BorderTracer(1, 1);
+            tracer.setPixel(0, 0, value);
+            Check.due("value " + value, tracer.getPixel(0, 0), value == 0 ? 0 : 1);
+            Check.due("contours of value " + value, tracer.trace(), value == 0 ? 0 : 1);
+            tracer.setRow(0, value);
+            Check.due("bits " + value, tracer.getPixel(0, 0), value % 2 == 0 ? 0 : 1);
+            Check.due("contours of bits " + value, tracer.trace(), value % 2 == 0 ? 0 : 1);
         }
     }
 
@@ -208,6 +202,32 @@ public final class TermsTest {
         }
     }
 
+    /** The middle pixel of 5 x 5 and each other one: they are joined unless that one is at the rim. */
+    private static void eightNeighbours() {
+        Check.sentence("The 8-NEIGHBOURS are these four plus (x-1,y-1), (x+1,y-1), (x-1,y+1), (x+1,y+1).");
+        for (int cell = 0; cell < 25; cell++) {
+            BorderTracer tracer = new BorderTracer(5, 5);
+            tracer.setPixel(2, 2, 1);
+            tracer.setPixel(cell % 5, cell / 5, 1);
+            boolean rim = cell % 5 == 0 || cell % 5 == 4 || cell / 5 == 0 || cell / 5 == 4;
+            Check.due("middle and " + cell % 5 + " " + cell / 5, tracer.trace(), rim ? 2 : 1);
+        }
+    }
+
+    /** Parts of the background that only outer cells join are one component all the same. */
+    private static void outerCellsAreOutside() {
+        Check.sentence("The one holding the outer cells is OUTSIDE");
+        BorderTracer tracer = Pictures.drawAndTrace("#.#", ".#.", "#.#");
+        Check.due("cross", tracer.contourCount(), 1);
+        Check.due("cross, length", tracer.contourLength(0), 20);
+        for (int cell = 0; cell < 9; cell++) {
+            Check.due("cross " + cell, tracer.contourOf(cell % 3, cell / 3), cell % 2 == 0 ? 0 : -1);
+        }
+        for (int side = 0; side < 4; side++) {
+            Check.due("middle, side " + side, tracer.hasEdge(0, 1, 1, side), true);
+        }
+    }
+
     /** From each rim pixel a way of two pixels leads inwards: open, it lies in OUTSIDE; closed, it is a hole. */
     private static void outsideAtEachRim() {
         Check.sentence("a background pixel is in OUTSIDE exactly when 4-neighbour steps over background pixels join "
@@ -247,8 +267,7 @@ public final class TermsTest {
 
     /** A way up and down through all inner columns, in both directions and both ways round. */
     private static void outsideByLongWays() {
-        Check.sentence("4-neighbour steps over background pixels join it to a background pixel at the rim: by the "
-            + "longest way");
+        Check.sentence("4-neighbour steps over background pixels join it to a background pixel at the rim: by a long way");
         for (int turn = 0; turn < 4; turn++) {
             BorderTracer tracer = new BorderTracer(15, 15);
             for (int cell = 0; cell < 225; cell++) {
@@ -313,126 +332,6 @@ public final class TermsTest {
                 Check.due("low raster " + bits, low.contourKind(k), BorderTracer.KIND_OUTER);
             }
         }
-    }
-
-    private static void contoursOnlyWhileTraced() {
-        Check.sentence("CONTOURS exist only while TRACED is true");
-        for (Situation situation : Situation.notTraced()) {
-            Invalidated.look(situation.name, situation.make());
-        }
-        for (Situation situation : Situation.traced()) {
-            BorderTracer tracer = situation.make();
-            for (int k = 0; k < situation.count; k++) {
-                Check.due(situation.name + ": " + k, tracer.contourKind(k) != BorderTracer.KIND_NONE, true);
-            }
-        }
-    }
-
-    private static void oneContourEach() {
-        Check.sentence("one OUTER contour for each foreground component C and one HOLE contour for each hole B, no "
-            + "others");
-        Check.due("none", Pictures.draw("...", "...").trace(), 0);
-        Check.due("diagonal foreground is one", Pictures.draw("#..", ".#.", "..#").trace(), 1);
-        Check.due("other diagonal too", Pictures.draw("..#", ".#.", "#..").trace(), 1);
-        Check.due("diagonal background is two", Pictures.draw("####", "#.##", "##.#", "####").trace(), 3);
-        Check.due("other diagonal too", Pictures.draw("####", "##.#", "#.##", "####").trace(), 3);
-        Check.due("a bay at the rim is no hole", Pictures.draw("###", "#.#", "#.#").trace(), 1);
-        Check.due("background at each rim", Pictures.draw("#.#", "...", "#.#").trace(), 4);
-        Check.due("a corner does not open a hole", Pictures.draw(".##", "#.#", "###").trace(), 2);
-        Check.due("parts that join late", Pictures.draw("#.#.#", "#.#.#", "#####").trace(), 1);
-        Check.due("hole's parts that join late", Pictures.draw("#######", "#.#.#.#", "#.....#", "#######").trace(), 2);
-    }
-
-    private static void keyPixelsAreForeground() {
-        Check.sentence("(it is always a foreground pixel)");
-        for (int bits = 0; bits < 1 << 16; bits++) {
-            BorderTracer tracer = fourByFour(bits);
-            for (int k = 0; k < tracer.contourCount(); k++) {
-                int start = tracer.contourStart(k);
-                Check.due("raster " + bits + " key of " + k, tracer.getPixel(start % 16, start / 16), 1);
-            }
-        }
-    }
-
-    private static void keyPixelsDiffer() {
-        Check.sentence("No two contours have the same key pixel.");
-        for (int bits = 0; bits < 1 << 16; bits++) {
-            BorderTracer tracer = fourByFour(bits);
-            Set<Integer> keys = new HashSet<>();
-            for (int k = 0; k < tracer.contourCount(); k++) {
-                Check.due("raster " + bits + " key of " + k + " is new", keys.add(tracer.contourStart(k)), true);
-            }
-        }
-    }
-
-    private static void numberedByKeyPixels() {
-        Check.sentence("Contours are numbered 0..n-1 by increasing raster index of their key pixels.");
-        for (int bits = 0; bits < 1 << 16; bits++) {
-            BorderTracer tracer = fourByFour(bits);
-            for (int k = 1; k < tracer.contourCount(); k++) {
-                boolean later = tracer.contourStart(k) > tracer.contourStart(k - 1);
-                Check.due("raster " + bits + " key of " + k + " is later", later, true);
-            }
-        }
-    }
-
-    private static BorderTracer fourByFour(int bits) {
-        BorderTracer tracer = new BorderTracer(4, 4);
-        for (int y = 0; y < 4; y++) {
-            tracer.setRow(y, bits >>> (4 * y));
-        }
-        tracer.trace();
-        return tracer;
-    }
-
-    private static void leftOfTheFirstPixel() {
-        Check.sentence("the background component holding the cell (x-1,y), where (x,y) is the first pixel of C (that "
-            + "cell is always background, possibly an outer cell)");
-        for (int y = 0; y < 16; y++) {
-            BorderTracer tracer = new BorderTracer(16, 16);
-            // The pixels before this one in raster order are at the other end of the row above.
-            tracer.setPixel(0, y, 1);
-            tracer.setPixel(15, y, 1);
-            Check.due("row " + y, tracer.trace(), 2);
-            Check.due("row " + y + " first column", tracer.contourParent(0), BorderTracer.NO_PARENT);
-            Check.due("row " + y + " last column", tracer.contourParent(1), BorderTracer.NO_PARENT);
-            Check.due("row " + y + " left edge", tracer.hasEdge(0, 0, y, BorderTracer.SIDE_LEFT), true);
-        }
-        BorderTracer island = Pictures.drawAndTrace("#####", "#...#", "#.#.#", "#...#", "#####");
-        Check.due("the cell lies in a hole", island.contourParent(2), 1);
-        // A hole that reaches the column before the last, and a component at the left rim right after it.
-        BorderTracer wrapped = Pictures.drawAndTrace("....############", "....#..........#", "#...############");
-        Check.due("wrapped", wrapped.contourCount(), 3);
-        Check.due("hole's parent", wrapped.contourParent(1), 0);
-        Check.due("left rim's parent", wrapped.contourParent(2), BorderTracer.NO_PARENT);
-    }
-
-    private static void descendants() {
-        Check.sentence("DESCENDANTS of k: its children, their children, and so on (never k itself).");
-        BorderTracer tracer = Pictures.drawAndTrace(TARGET);
-        int[] due = {49, -25, 9, -1};
-        for (int k = 0; k < 4; k++) {
-            Check.due("area of " + k, tracer.contourArea(k), due[k]);
-        }
-    }
-
-    private static void interiors() {
-        Check.sentence("INTERIOR(k): the pixels that lie in R(k) or in R(j) for some descendant j of k.");
-        BorderTracer tracer = Pictures.drawAndTrace(TARGET);
-        for (int k = 0; k < 4; k++) {
-            tracer.toggleFill(k);
-            for (int cell = 0; cell < 49; cell++) {
-                int depth = Math.min(Math.min(cell % 7, cell / 7), Math.min(6 - cell % 7, 6 - cell / 7));
-                int want = depth >= k ? 1 : 0;
-                Check.due("interior of " + k + ": " + cell, tracer.getFilled(cell % 7, cell / 7), want);
-            }
-            tracer.toggleFill(k);
-        }
-        // Interiors of contours side by side have nothing in common.
-        BorderTracer beside = Pictures.drawAndTrace("###.###", "#.#.#.#", "###.###");
-        beside.toggleFill(0);
-        String left = Pictures.lines("###....", "###....", "###....");
-        Check.due("the left one", Pictures.filled(beside, 7, 3), left);
     }
 
     private static void invalidate() {
