@@ -111,6 +111,8 @@ public final class Promise05Test {
         Check.due("ring", Pictures.draw(Pictures.RING).trace(), 3);
         Check.due("diamond", Pictures.draw(Pictures.DIAMOND).trace(), 2);
         Check.due("nested", Pictures.draw(Pictures.NESTED).trace(), 6);
+        Check.due("higher than wide", Pictures.draw("##", "..", "##", "..", "##").trace(), 3);
+        Check.due("wider than high", Pictures.draw("#.#.#", "#.#.#").trace(), 3);
         Check.due("two parts that join below", Pictures.draw("#.#", "#.#", "###").trace(), 1);
         Check.due("hole whose parts join below", Pictures.draw("#####", "#.#.#", "#...#", "#####").trace(), 2);
     }

@@ -64,6 +64,8 @@ public final class Promise13Test {
         numbers(new String[] {"."}, "-");
         numbers(new String[] {"###", "#.#", "#.#"}, "000", "0-0", "0-0");
         numbers(new String[] {"#.#", "#.#", "###"}, "0-0", "0-0", "000");
+        numbers(new String[] {"###", "#.#", "#.#", "#.#"}, "000", "0-0", "0-0", "0-0");
+        numbers(new String[] {"####", "#...", "####"}, "0000", "0---", "0000");
         numbers(new String[] {"###", "..#", "###"}, "000", "--0", "000");
         numbers(new String[] {"###", "#..", "###"}, "000", "0--", "000");
         BorderTracer empty = new BorderTracer(16, 16);

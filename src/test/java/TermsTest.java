@@ -267,7 +267,8 @@ public final class TermsTest {
 
     /** A way up and down through all inner columns, in both directions and both ways round. */
     private static void outsideByLongWays() {
-        Check.sentence("4-neighbour steps over background pixels join it to a background pixel at the rim: by a long way");
+        Check.sentence("4-neighbour steps over background pixels join it to a background pixel at the rim: by a "
+            + "long way");
         for (int turn = 0; turn < 4; turn++) {
             BorderTracer tracer = new BorderTracer(15, 15);
             for (int cell = 0; cell < 225; cell++) {
