@@ -64,8 +64,9 @@ public final class Promise13Test {
         numbers(new String[] {"."}, "-");
         numbers(new String[] {"###", "#.#", "#.#"}, "000", "0-0", "0-0");
         numbers(new String[] {"#.#", "#.#", "###"}, "0-0", "0-0", "000");
-        numbers(new String[] {"###", "#.#", "#.#", "#.#"}, "000", "0-0", "0-0", "0-0");
-        numbers(new String[] {"####", "#...", "####"}, "0000", "0---", "0000");
+        // Wider than high and open below, higher than wide and open at the right.
+        numbers(new String[] {"#####", "#...#", "##.##"}, "00000", "0---0", "00-00");
+        numbers(new String[] {"###", "#.#", "#..", "#.#", "###"}, "000", "0-0", "0--", "0-0", "000");
         numbers(new String[] {"###", "..#", "###"}, "000", "--0", "000");
         numbers(new String[] {"###", "#..", "###"}, "000", "0--", "000");
         BorderTracer empty = new BorderTracer(16, 16);
